@@ -328,6 +328,10 @@ public final class PromiseTest {
         due("8: the room itself is as it was", x.count(2), 6);
         x = read("1;s1,p1;015,104");
         due("8: a saint never sits", x.wrong(0, 5), 1);
+        x = read("1;p1,p1,p1,p1,p1,g1;015,125,235,345,455,501");
+        due("8: six seats part who has guilt from who has none", x.wrong(5, 5), 6);
+        x.see(5, 6, false);
+        due("8: half of 1 has no seat", x.wrong(5, 4), 1);
     }
 
     private static void promise9To() {
@@ -371,6 +375,12 @@ public final class PromiseTest {
             due("10: sunday " + n, x.sunday(), 2);
         }
         due("10: 400", x.count(7), 400);
+        // No run of 512 calls gets there, yet the limit is the document's.
+        for (int n = 401; n <= 999; n++) {
+            x.sunday();
+        }
+        due("10: after 999", x.sunday(), FULL);
+        due("10: 999", x.count(7), 999);
     }
 
     private static void promise11Forgive() {
@@ -651,9 +661,9 @@ public final class PromiseTest {
     }
 
     private static void promise23Restore() {
-        LastBench x = read("1;p0,g4;015,103");
+        LastBench x = read("1;p0,g1;015,103");
         due("23: none kept", x.restore(), STATE);
-        x.sunday();
+        due("23: one freezes", x.sunday(), 1);
         x.forgive(0);
         x.see(1, 1, true);
         long before = x.digest();
@@ -704,6 +714,8 @@ public final class PromiseTest {
         x.sunday();
         x.sunday();
         due("24: froze", x.count(8), 2);
+        x.again(0, 8);
+        due("24: guilt of all", x.count(5), 8 + 5 + 1);
         due("24: -1", x.count(-1), OUTSIDE);
         due("24: 13", x.count(13), OUTSIDE);
         due("24: least", x.count(MIN), OUTSIDE);
