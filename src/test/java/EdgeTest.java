@@ -16,6 +16,7 @@ public final class EdgeTest {
         newObject();
         pageFills();
         everyLetterBehindEveryBeginning();
+        blankLeavesNothing();
         faultIsTheFirst();
         chapelTakesTheShortestAndTheLongest();
         chapelBeginsAnew();
@@ -33,6 +34,7 @@ public final class EdgeTest {
         lookWithEachRoom();
         lookAmongLikeOnes();
         lookForNone();
+        gravesAndLookByTrial();
         steps();
         warmByOneSunday();
         forgiveAndAgain();
@@ -51,6 +53,7 @@ public final class EdgeTest {
         oddsOfNothingAndAll();
         oddsInLowestTerms();
         seenFills();
+        seenStays();
         wintersOfEachLength();
         wintersBySeeds();
         wintersOnlyWouldBe();
@@ -59,6 +62,7 @@ public final class EdgeTest {
         imageKeepsNoMore();
         counts();
         digests();
+        tellingLeavesNoTrace();
         theLastOf512Calls();
         System.out.println(failures == 0 ? "all edges hold" : failures + " edges do not hold");
         if (failures != 0) {
@@ -211,6 +215,27 @@ public final class EdgeTest {
         due("5: chapel of '" + text + "'", x.chapel(), whole ? parts[1].split(",").length : STATE);
         due("5: letters behind chapel of '" + text + "'", x.count(10), whole ? 0 : text.length());
         due("5: how many are read by '" + text + "'", x.count(11), whole ? 1 : 0);
+    }
+
+    /** Of a longer page that was there before, nothing is read behind the last letter. */
+    private static void blankLeavesNothing() {
+        String longer = text(6, 8);
+        for (int length = 0; length <= longer.length(); length++) {
+            LastBench x = new LastBench();
+            spell(x, longer);
+            due("3: 51 were there", x.blank(), 51);
+            spell(x, longer.substring(0, length));
+            due("3: fault at " + length, x.fault(), length);
+            due("3: chapel of " + length, x.chapel(), length >= 23 && length % 4 == 3 ? 6 : STATE);
+        }
+        LastBench x = new LastBench();
+        spell(x, "1;p1,p1;011,");
+        x.blank();
+        spell(x, "1;p1,p1;011");
+        due("3: a shorter one is whole", x.chapel(), 2);
+        spell(x, "1;p1,p1;01");
+        due("5: of the last chapel nothing is read again", x.chapel(), STATE);
+        due("4: it has no fault", x.fault(), 10);
     }
 
     private static void faultIsTheFirst() {
@@ -431,12 +456,13 @@ public final class EdgeTest {
         String[] rows = {"10000", "11000", "10100", "10010", "11001"};
         LastBench x = read("1;p1,p1,p1,p1,p1,p1;011");
         for (int own = 0; own <= 4; own++) {
+            int others = (own + 1) % 5;
             x.change(5, own, 1);
-            x.change(0, own, 1);
+            x.change(0, others, 1);
             for (int kind = 0; kind <= 4; kind++) {
-                boolean such = rows[own].charAt(kind) == '1';
-                due("7: own " + own + " as " + kind, x.as(5, kind), such ? 5 : NONE);
-                due("7: the first, own " + own + " as " + kind, x.as(0, kind), such ? 0 : NONE);
+                due("7: own " + own + " as " + kind, x.as(5, kind), rows[own].charAt(kind) == '1' ? 5 : NONE);
+                due("7: the first, own " + others + " as " + kind, x.as(0, kind), rows[others].charAt(kind) == '1' ? 0 : NONE);
+                due("7: one between as " + kind, x.as(3, kind), kind == 0 ? 3 : NONE);
             }
         }
     }
@@ -535,6 +561,64 @@ public final class EdgeTest {
         due("8: then there is one again", x.wrong(0, 5), 1);
     }
 
+    /** Graves by doing the wrong again with each, look by seeing both ways with each room, all on other objects. */
+    private static void gravesAndLookByTrial() {
+        String[] texts = {"1;p1,p1;011,104", "2;p1,p1,p1;201,014,127", "3;g1,p1,h1,b1;012,105,233,321,022", "6;b1,p1,p1,p1;011,123,235,307",
+            "1;h1,g1,p1,p1,p1,p1;011,129,238,347,456,505,024,103", "4;p1,p1,p1,p1,p1,s1;501,011,122,233,344,455", "2;g1,g1,g1;012,124,206,019"};
+        for (String text : texts) {
+            int wrongs = text.split(";")[2].split(",").length;
+            for (int wrong = 0; wrong < wrongs; wrong++) {
+                trial(text, wrong, new int[0]);
+                for (int room = 1; room <= 6; room++) {
+                    trial(text, wrong, new int[] {room});
+                    trial(text, wrong, new int[] {-room});
+                    trial(text, wrong, new int[] {-1, room});
+                }
+            }
+        }
+    }
+
+    /** What is seen is told by rooms: above 0 he sits, below 0 he does not. */
+    private static LastBench readAndSee(String text, int wrong, int[] seen) {
+        LastBench x = read(text);
+        for (int room : seen) {
+            x.see(wrong, Math.abs(room), room > 0);
+        }
+        return x;
+    }
+
+    private static void trial(String text, int wrong, int[] seen) {
+        LastBench y = read(text);
+        int did = y.wrong(wrong, 0);
+        int bits = 0;
+        for (int grave = 1; grave <= 9; grave++) {
+            y.again(wrong, grave);
+            boolean so = true;
+            for (int room : seen) {
+                y.room(Math.abs(room));
+                so &= y.person(did, 3) == (room > 0 ? 1 : 0);
+            }
+            bits |= so ? 1 << (grave - 1) : 0;
+        }
+        String of = wrong + " of " + text + " by " + java.util.Arrays.toString(seen);
+        LastBench x = readAndSee(text, wrong, seen);
+        due("8: graves of " + of, x.wrong(wrong, 4), bits);
+        int best = NONE;
+        int fewest = 10;
+        for (int room = 1; room <= 6 && bits != 0; room++) {
+            LastBench yes = readAndSee(text, wrong, seen);
+            LastBench no = readAndSee(text, wrong, seen);
+            yes.see(wrong, room, true);
+            no.see(wrong, room, false);
+            int worst = Math.max(Integer.bitCount(yes.wrong(wrong, 4)), Integer.bitCount(no.wrong(wrong, 4)));
+            if (worst < fewest) {
+                fewest = worst;
+                best = room;
+            }
+        }
+        due("8: look for " + of, x.wrong(wrong, 5), best);
+    }
+
     // ---- promise 9
 
     private static void steps() {
@@ -555,6 +639,18 @@ public final class EdgeTest {
         due("9: and on", x.to(0, 5), 3);
         due("9: round", x.to(5, 4), 3);
         due("9: the longest round", x.to(1, 0), 5);
+        x = read("1;p1,p1,p1,p1,p1,p1;101,201,311,421,531,541");
+        int[] behind = {1, 1, 2, 2, 3};
+        for (int to = 1; to <= 5; to++) {
+            due("9: two ways part, to " + to, x.to(0, to), behind[to - 1]);
+        }
+        x.forgive(5);
+        due("9: by the one way", x.to(0, 5), 3);
+        due("9: not by the other", x.to(2, 5), NONE);
+        x.again(5, 1);
+        x.forgive(4);
+        due("9: by the other way", x.to(0, 5), 3);
+        due("9: not by the one", x.to(1, 5), NONE);
     }
 
     // ---- promise 10
@@ -603,6 +699,14 @@ public final class EdgeTest {
         due("12: what is not forgiven is done again, too", x.again(7, 1), 2);
         due("11: and can be forgiven again", x.forgive(7), 1);
         due("11: its grave stays", x.wrong(7, 2), 1);
+        // Each one's own guilt, with no image and nothing asked before.
+        x = read("6;p1,p1,p1,p1,p1,p1;501,412,423,309,218,107,016");
+        due("11: of 5", x.forgive(0), 0);
+        due("11: of 4", x.forgive(1), 3);
+        due("11: of 1", x.forgive(5), 0);
+        due("12: of 3", x.again(3, 4), 4);
+        due("12: of 5", x.again(0, 9), 9);
+        due("12: of 4", x.again(1, 5), 8);
     }
 
     private static void roomsThatAreTaken() {
@@ -738,28 +842,37 @@ public final class EdgeTest {
 
     private static void rings() {
         for (int length = 2; length <= 6; length++) {
-            StringBuilder s = new StringBuilder("1;p1,p1,p1,p1,p1,p1;");
-            for (int n = 0; n < length; n++) {
-                int did = 6 - length + n;
-                int whom = 6 - length + (n + 1) % length;
-                s.append(n == 0 ? "" : ",").append(did).append(whom).append(1 + n);
-            }
-            LastBench x = read(s.toString());
-            due("16: a ring of " + length, x.ring(), length);
-            due("17: one is enough", x.peace(0), 1);
-            due("17: the least", x.peace(1), 1);
-            for (int n = 0; n < length; n++) {
-                x.forgive(n);
-                due("16: broken at " + n, x.ring(), NONE);
-                due("17: nothing to forgive", x.peace(0), 0);
-                due("17: nothing, as bits", x.peace(1), 0);
-                x.again(n, 1);
-                due("16: closed at " + n, x.ring(), length);
+            for (int first = 0; first + length <= 6; first++) {
+                ringOf(first, length);
             }
         }
-        due("16: the fewest of two rings", read("1;p1,p1,p1,p1,p1;011,121,201,341,431").ring(), 2);
+        due("16: the fewest of two rings, the last", read("1;p1,p1,p1,p1,p1;011,121,201,341,431").ring(), 2);
+        due("16: the fewest of two rings, the first", read("1;p1,p1,p1,p1,p1;011,101,231,341,421").ring(), 2);
+        due("16: the fewest of two rings in one", read("1;p1,p1,p1,p1;011,121,231,301,201").ring(), 3);
         due("16: the same one twice is no ring", read("1;p1,p1;011,012").ring(), NONE);
         due("16: two ways are no ring", read("1;p1,p1,p1;011,121,021").ring(), NONE);
+    }
+
+    /** A ring of so many, from that one on; whoever else is there has nothing to do with it. */
+    private static void ringOf(int first, int length) {
+        StringBuilder s = new StringBuilder("1;p1,p1,p1,p1,p1,p1;");
+        for (int n = 0; n < length; n++) {
+            int did = first + n;
+            int whom = first + (n + 1) % length;
+            s.append(n == 0 ? "" : ",").append(did).append(whom).append(1 + n);
+        }
+        LastBench x = read(s.toString());
+        due("16: a ring of " + length, x.ring(), length);
+        due("17: one is enough", x.peace(0), 1);
+        due("17: the least", x.peace(1), 1);
+        for (int n = 0; n < length; n++) {
+            x.forgive(n);
+            due("16: broken at " + n, x.ring(), NONE);
+            due("17: nothing to forgive", x.peace(0), 0);
+            due("17: nothing, as bits", x.peace(1), 0);
+            x.again(n, 1);
+            due("16: closed at " + n, x.ring(), length);
+        }
     }
 
     private static void peaces(String text, int many, int which) {
@@ -835,6 +948,13 @@ public final class EdgeTest {
         oddsAre(x, 0, 10, 0, 1);
         x.change(0, 1, 1);
         oddsAre(x, 0, 1, 99999927, 100000000);
+        x = read("6;p1,p1,p1,p1,b1,b1;011");
+        oddsAre(x, 4, 5, 1, 1);
+        oddsAre(x, 5, 5, 1, 1);
+        oddsAre(x, 3, 5, 0, 1);
+        x.room(2);
+        oddsAre(x, 0, 3, 7, 10);
+        oddsAre(x, 5, 3, 3, 10);
         x = read("1;p1,p1;011,101,011,011,011,011,011,011");
         oddsAre(x, 1, 9, 4782969, 100000000);
     }
@@ -865,6 +985,33 @@ public final class EdgeTest {
         due("8: by the sixth", x.wrong(1, 4), 480);
         x.forget();
         due("19: the same twice is two", x.see(0, 1, true) + x.see(0, 1, true), 3);
+    }
+
+    /** Only forget(), restore() and another chapel take away what is seen. */
+    private static void seenStays() {
+        LastBench x = read("1;p1,p1;015,104");
+        x.see(1, 1, true);
+        x.sunday();
+        x.forgive(1);
+        x.again(1, 2);
+        x.again(0, 7);
+        x.room(2);
+        x.change(0, 0, 5);
+        x.leave(1, 0);
+        x.winters(9, 9, 0);
+        x.letter(49);
+        x.chapel();
+        x.blank();
+        x.image();
+        due("19: it is seen still", x.count(9), 1);
+        due("8: by all else as it is now, more than 7", x.wrong(1, 4), 384);
+        x.see(1, 1, true);
+        due("23: back to the one", x.restore(), 1);
+        due("24: one", x.count(9), 1);
+        due("20: one was", x.forget(), 1);
+        due("23: and back to it", x.restore(), 1);
+        due("24: one again", x.count(9), 1);
+        due("8: as before", x.wrong(1, 4), 384);
     }
 
     // ---- promise 21
@@ -1102,6 +1249,50 @@ public final class EdgeTest {
                 due("25: it changes nothing", y.digest(), y.digest());
             }
         }
+    }
+
+    private interface Query {
+        long on(LastBench x);
+    }
+
+    /** Of any two questions, one behind the other, the second is answered as if there had been no first. */
+    private static void tellingLeavesNoTrace() {
+        Query[] queries = {x -> x.person(1, 2), x -> x.person(2, 3), x -> x.person(0, 5), x -> x.wrong(0, 4), x -> x.wrong(2, 5), x -> x.to(0, 2),
+            LastBench::ring, x -> x.peace(0), x -> x.peace(1), x -> x.odds(0, 0, 0), x -> x.odds(1, 7, 0), x -> x.odds(2, 7, 1),
+            x -> x.winters(60, 3, 0), x -> x.winters(3, 4, 1), x -> x.count(3), x -> x.count(4), x -> x.count(5), x -> x.count(8), LastBench::fault,
+            LastBench::digest, LastBench::image, x -> x.leave(2, 0), x -> x.leave(6, 1), x -> x.leave(4, 2)};
+        Deed[] deeds = {x -> { }, x -> x.change(1, 3, 4), x -> x.room(1), LastBench::sunday, LastBench::restore, x -> x.again(1, 9), x -> x.forgive(2)};
+        for (int deed = 0; deed < deeds.length; deed++) {
+            for (int second = 0; second < queries.length; second++) {
+                LastBench alone = asked(deeds[deed], null);
+                long want = queries[second].on(alone);
+                for (int first = 0; first < queries.length; first++) {
+                    // How often leave() was done is in the digest.
+                    if (first < queries.length - 3 || second != 19) {
+                        long got = queries[second].on(asked(deeds[deed], queries[first]));
+                        due("question " + second + " behind deed " + deed + " and question " + first, got, want);
+                    }
+                }
+            }
+        }
+    }
+
+    /** The first question is asked ahead of the deed and behind it. */
+    private static LastBench asked(Deed deed, Query first) {
+        LastBench x = read("2;p0,g1,h2;015,203,126,102");
+        x.sunday();
+        x.forgive(1);
+        x.see(0, 2, true);
+        x.image();
+        spell(x, "1;q");
+        if (first != null) {
+            first.on(x);
+        }
+        deed.on(x);
+        if (first != null) {
+            first.on(x);
+        }
+        return x;
     }
 
     private static void theLastOf512Calls() {

@@ -44,11 +44,11 @@ public final class RefusalTest {
 
         private void goOn(LastBench x) {
             if (this == PAGE_FULL) {
-                while (x.count(10) < 54) {
+                for (int n = x.count(10); n < 54; n++) {
                     x.letter('p');
                 }
             } else if (this == SEEN_FULL) {
-                while (x.count(9) < 6) {
+                for (int n = x.count(9); n < 6; n++) {
                     x.see(2, 3, true);
                 }
             } else if (this == ALL_FORGIVEN) {
@@ -56,7 +56,7 @@ public final class RefusalTest {
                     x.forgive(wrong);
                 }
             } else if (this == LEFT_TWENTY_TIMES) {
-                while (x.count(12) < 20) {
+                for (int n = 0; n < 20; n++) {
                     x.leave(1, 0);
                 }
             }
