@@ -129,6 +129,17 @@ public final class RulesTest {
         rule(!Pattern.compile("static\\s*\\{").matcher(bare).find(), "no static initialiser block");
         rule(!Pattern.compile("\\bwhile\\s*\\(\\s*true|for\\s*\\(\\s*;\\s*;").matcher(bare).find(), "every loop has an end");
         methodLengths(bare);
+        nothingIsMadeByCalls(bare);
+    }
+
+    /** All calls of a run live in one room, so what is made is made with the object. */
+    private static void nothingIsMadeByCalls(String bare) {
+        String besides = bare.replaceFirst("(?s)    public LastBench\\(\\) \\{.*?\n    \\}\n", "");
+        rule(!besides.equals(bare), "the constructor stands there");
+        for (String line : besides.split("\n")) {
+            boolean makes = Pattern.compile("\\b(new|clone|copyOf|copyOfRange)\\b").matcher(line).find();
+            rule(!makes || line.matches("        final [\\w\\[\\]]+ \\w+ = new [^;]*;"), "made with the object: " + line.trim());
+        }
     }
 
     private static void methodLengths(String bare) {
