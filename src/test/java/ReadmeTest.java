@@ -38,9 +38,10 @@ public final class ReadmeTest {
     public static void main(String[] args) throws Exception {
         Path program = Path.of(System.getProperty("program", "src/main/java/LastBench.java")).toAbsolutePath();
         Path root = program.getParent().getParent().getParent().getParent();
+        Path shared = Path.of(System.getProperty("shared", root.resolve("../shared").toString()));
         String readme = Files.readString(root.resolve("README.md"));
         examples(readme);
-        refusals(readme, Files.readString(root.resolve("../shared/DOC.md")));
+        refusals(readme, Files.readString(shared.resolve("DOC.md")));
         numbers(readme);
         tests(readme, root.resolve("src/test/java"));
         texts(readme);
